@@ -478,7 +478,7 @@ public final class RingDrive {
           trailing++;
         }
         if (trailing == 8) {
-          roundOnes = Math.min(MARK, roundOnes + 8);
+          roundOnes = roundOnes + 8 < MARK ? roundOnes + 8 : MARK;
         } else {
           place = roundOnes + leading >= MARK ? 8 * roundCell + leading : NONE;
           roundOnes = trailing;
@@ -513,7 +513,7 @@ public final class RingDrive {
         if (bit == 0 && ones >= MARK) {
           first = true;
         }
-        ones = bit == 0 ? 0 : Math.min(MARK, ones + 1);
+        ones = bit == 0 ? 0 : ones < MARK ? ones + 1 : MARK;
         value = value << 1 | bit;
         many = ones >= MARK ? 0 : many + 1;
       }
@@ -579,7 +579,7 @@ public final class RingDrive {
     }
 
     static boolean isLegal(int track, int sector) {
-      return sector >= 0 && sector < sectorsOf(track);
+      return track >= 1 && track <= TRACKS && sector >= 0 && sector < SECTORS[track - 1];
     }
 
     boolean hasId() {
@@ -915,14 +915,14 @@ public final class RingDrive {
     }
 
     void takeBlock(int t, int s) {
-      if (isFree(t, s)) {
+      if (Disk.isLegal(t, s) && (row[3 + 2 * t] >> s & 1) == 1) {
         row[3 + 2 * t] &= ~(1 << s);
         row[2 + 2 * t] = row[2 + 2 * t] - 1 & 255;
       }
     }
 
     void giveBack(int t, int s) {
-      if (Disk.isLegal(t, s) && !isFree(t, s)) {
+      if (Disk.isLegal(t, s) && (row[3 + 2 * t] >> s & 1) == 0) {
         row[3 + 2 * t] |= 1 << s;
         row[2 + 2 * t] = row[2 + 2 * t] + 1 & 255;
       }
@@ -1832,9 +1832,9 @@ public final class RingDrive {
     }
 
     private int rename() {
-      int equals = tape.find('=', 2);
-      boolean good = tape.byteAt(1) == ':' && equals != NONE && name.take(tape, 2, equals)
-          && old.take(tape, equals + 1, tape.length) && !name.isEmpty() && !old.isEmpty();
+      int split = tape.find('=', 2);
+      boolean good = tape.byteAt(1) == ':' && split != NONE && name.take(tape, 2, split)
+          && old.take(tape, split + 1, tape.length) && !name.isEmpty() && !old.isEmpty();
       if (!good) {
         return status.set(30, 0, 0);
       }
@@ -2347,8 +2347,8 @@ public final class RingDrive {
     }
 
     private int marked(int value) {
-      flag(N, (value & 128) != 0);
-      flag(Z, (value & 255) == 0);
+      int zero = (value & 255) == 0 ? Z : 0;
+      p = p & ~(N | Z) | value & N | zero;
       return value & 255;
     }
 
@@ -2396,9 +2396,11 @@ public final class RingDrive {
 
     private void addBinary(int value) {
       int sum = a + value + (p & C);
-      flag(V, (~(a ^ value) & (a ^ sum) & 128) != 0);
-      flag(C, sum > 255);
-      a = marked(sum);
+      int over = (~(a ^ value) & (a ^ sum) & 128) != 0 ? V : 0;
+      int carry = sum > 255 ? C : 0;
+      int zero = (sum & 255) == 0 ? Z : 0;
+      p = p & ~(N | V | Z | C) | sum & N | over | zero | carry;
+      a = sum & 255;
     }
 
     private void add(int value) {

@@ -109,6 +109,28 @@ final class Check {
     return status();
   }
 
+  /** A block's 64 bytes, by a buffer of channel 13. */
+  String block(int track, int sector) {
+    open(13, "#");
+    command("U1:13," + track + "," + sector);
+    String bytes = read(13, 64);
+    drive.close(13);
+    return bytes;
+  }
+
+  void setBlock(int track, int sector, String bytes) {
+    open(13, "#");
+    write(13, bytes);
+    command("U2:13," + track + "," + sector);
+    drive.close(13);
+  }
+
+  /** Changes one byte of a block. */
+  void poke(int track, int sector, int at, int value) {
+    String bytes = block(track, sector);
+    setBlock(track, sector, bytes.substring(0, at) + (char) value + bytes.substring(at + 1));
+  }
+
   static Check formatted() {
     Check check = new Check();
     check.command("N:DISK,AB");
