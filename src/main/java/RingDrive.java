@@ -46,10 +46,9 @@ public final class RingDrive {
   }
 
   public int open(int c, int n) {
-    if (!isChannel(c) || !tape.has(n)) {
+    if (!sendText(c, n)) {
       return NONE;
     }
-    tape.send(n);
     if (c == COMMAND_CHANNEL) {
       commands.run();
       return status.number;
@@ -63,10 +62,9 @@ public final class RingDrive {
   }
 
   public int write(int c, int n) {
-    if (!isChannel(c) || !tape.has(n)) {
+    if (!sendText(c, n)) {
       return NONE;
     }
-    tape.send(n);
     if (c == COMMAND_CHANNEL) {
       commands.run();
       return status.number;
@@ -167,6 +165,15 @@ public final class RingDrive {
     return c >= 0 && c <= COMMAND_CHANNEL;
   }
 
+  /** The tape's first n bytes become the TEXT; false, and nothing changes, where that is refused. */
+  private boolean sendText(int c, int n) {
+    if (!isChannel(c) || !tape.has(n)) {
+      return false;
+    }
+    tape.send(n);
+    return true;
+  }
+
   /** What the host feeds, and the TEXT that it has sent of it. */
   private static final class Tape {
     static final int MOST = 400;
@@ -183,7 +190,7 @@ public final class RingDrive {
 
     void add(int four) {
       for (int shift = 24; shift >= 0 && count < MOST; shift -= 8) {
-        row[count] = four >> shift & 255;
+        row[count] = (four >> shift) & 255;
         count++;
       }
     }
@@ -382,14 +389,14 @@ public final class RingDrive {
     int word(int place) {
       int word = 0;
       for (int i = 0; i < 32; i += 8) {
-        word = word << 8 | eight(place + i);
+        word = (word << 8) | eight(place + i);
       }
       return word;
     }
 
     void flip(int place, int mask) {
       for (int i = 0; i < 32; i += 8) {
-        put(place + i, eight(place + i) ^ mask >> 24 - i & 255);
+        put(place + i, eight(place + i) ^ ((mask >> (24 - i)) & 255));
       }
     }
 
@@ -401,7 +408,7 @@ public final class RingDrive {
         return 0;
       }
       int next = cell + 1 < cells.length ? cell + 1 : 0;
-      return (cells[cell] << 8 | cells[next]) >> 8 - (turned & 7) & 255;
+      return (((cells[cell] << 8) | cells[next]) >> (8 - (turned & 7))) & 255;
     }
 
     void put(int place, int value) {
@@ -412,8 +419,8 @@ public final class RingDrive {
       }
       int next = cell + 1 < cells.length ? cell + 1 : 0;
       int shift = 8 - (turned & 7);
-      int pair = (cells[cell] << 8 | cells[next]) & ~(255 << shift) | value << shift;
-      cells[cell] = pair >> 8 & 255;
+      int pair = (((cells[cell] << 8) | cells[next]) & ~(255 << shift)) | (value << shift);
+      cells[cell] = (pair >> 8) & 255;
       cells[next] = pair & 255;
     }
 
@@ -445,7 +452,7 @@ public final class RingDrive {
       boolean isOne = true;
       while (count < MARK && isOne) {
         back = back > 0 ? back - 1 : size - 1;
-        isOne = back < size && (cells[back >> 3] >> 7 - (back & 7) & 1) == 1;
+        isOne = back < size && ((cells[back >> 3] >> (7 - (back & 7))) & 1) == 1;
         count += isOne ? 1 : 0;
       }
       return count;
@@ -471,10 +478,10 @@ public final class RingDrive {
         int cell = cells[roundCell];
         int leading = 0;
         int trailing = 0;
-        while (leading < 8 && roundOnes >= 3 && (cell >> 7 - leading & 1) == 1) {
+        while (leading < 8 && roundOnes >= 3 && ((cell >> (7 - leading)) & 1) == 1) {
           leading++;
         }
-        while (trailing < 8 && (cell >> trailing & 1) == 1) {
+        while (trailing < 8 && ((cell >> trailing) & 1) == 1) {
           trailing++;
         }
         if (trailing == 8) {
@@ -494,7 +501,7 @@ public final class RingDrive {
       for (int i = 0; i < bytes.length; i++) {
         int next = cell + 1 < cells.length ? cell + 1 : 0;
         if (cell < 0 || cell >= cells.length
-            || ((cells[cell] << 8 | cells[next]) >> shift & 255) != bytes[i]) {
+            || ((((cells[cell] << 8) | cells[next]) >> shift) & 255) != bytes[i]) {
           return false;
         }
         cell = next;
@@ -508,13 +515,13 @@ public final class RingDrive {
       int many = 0;
       first = false;
       for (int i = 0; i <= size + 8 && many < 8; i++) {
-        int bit = cells[at >> 3] >> 7 - (at & 7) & 1;
+        int bit = (cells[at >> 3] >> (7 - (at & 7))) & 1;
         at = at + 1 < size ? at + 1 : 0;
         if (bit == 0 && ones >= MARK) {
           first = true;
         }
         ones = bit == 0 ? 0 : ones < MARK ? ones + 1 : MARK;
-        value = value << 1 | bit;
+        value = (value << 1) | bit;
         many = ones >= MARK ? 0 : many + 1;
       }
       return value & 255;
@@ -750,12 +757,12 @@ public final class RingDrive {
       int many = 0;
       int to = 0;
       for (int i = 0; i < 2 * plain.length; i++) {
-        int four = plain[i >> 1] >> ((i & 1) == 0 ? 4 : 0) & 15;
-        held = (held << 5 | GROUPS[four]) & 4095;
+        int four = (plain[i >> 1] >> ((i & 1) == 0 ? 4 : 0)) & 15;
+        held = ((held << 5) | GROUPS[four]) & 4095;
         many += 5;
         if (many >= 8 && to < coded.length) {
           many -= 8;
-          coded[to] = held >> many & 255;
+          coded[to] = (held >> many) & 255;
           to++;
         }
       }
@@ -767,12 +774,12 @@ public final class RingDrive {
       int from = 0;
       for (int i = 0; i < 2 * plain.length; i++) {
         if (many < 5 && from < coded.length) {
-          held = held << 8 & 4095 | coded[from];
+          held = ((held << 8) & 4095) | coded[from];
           many += 8;
           from++;
         }
         many -= 5;
-        int four = many >= 0 ? VALUES[held >> many & 31] : NONE;
+        int four = many >= 0 ? VALUES[(held >> many) & 31] : NONE;
         if (four < 0) {
           return false;
         }
@@ -911,20 +918,20 @@ public final class RingDrive {
     }
 
     boolean isFree(int t, int s) {
-      return Disk.isLegal(t, s) && (row[3 + 2 * t] >> s & 1) == 1;
+      return Disk.isLegal(t, s) && ((row[3 + 2 * t] >> s) & 1) == 1;
     }
 
     void takeBlock(int t, int s) {
-      if (Disk.isLegal(t, s) && (row[3 + 2 * t] >> s & 1) == 1) {
+      if (Disk.isLegal(t, s) && ((row[3 + 2 * t] >> s) & 1) == 1) {
         row[3 + 2 * t] &= ~(1 << s);
-        row[2 + 2 * t] = row[2 + 2 * t] - 1 & 255;
+        row[2 + 2 * t] = (row[2 + 2 * t] - 1) & 255;
       }
     }
 
     void giveBack(int t, int s) {
-      if (Disk.isLegal(t, s) && (row[3 + 2 * t] >> s & 1) == 0) {
+      if (Disk.isLegal(t, s) && ((row[3 + 2 * t] >> s) & 1) == 0) {
         row[3 + 2 * t] |= 1 << s;
-        row[2 + 2 * t] = row[2 + 2 * t] + 1 & 255;
+        row[2 + 2 * t] = (row[2 + 2 * t] + 1) & 255;
       }
     }
 
@@ -1553,7 +1560,7 @@ public final class RingDrive {
       if (channel.mode == Channel.BUFFER) {
         ended = channel.place == Disk.BLOCK - 1;
         int value = channel.row[channel.place & 63];
-        channel.place = channel.place + 1 & 63;
+        channel.place = (channel.place + 1) & 63;
         return value;
       }
       if (channel.place >= channel.end && !channel.isLast) {
@@ -1654,7 +1661,7 @@ public final class RingDrive {
       if (mode == Channel.BUFFER) {
         for (int i = 0; i < tape.length; i++) {
           channels[c].row[channels[c].place & 63] = tape.byteAt(i);
-          channels[c].place = channels[c].place + 1 & 63;
+          channels[c].place = (channels[c].place + 1) & 63;
         }
       } else if (mode == Channel.WRITES) {
         int fault = 0;
@@ -2245,7 +2252,7 @@ public final class RingDrive {
         if (what == NO) {
           return 1;
         }
-        pc = pc + 1 & ROUND;
+        pc = (pc + 1) & ROUND;
         cycles += TAKES[code];
         locate(WAYS[code]);
         perform(what, WAYS[code]);
@@ -2274,18 +2281,18 @@ public final class RingDrive {
 
     private int fetch() {
       int value = cells[pc & ROUND];
-      pc = pc + 1 & ROUND;
+      pc = (pc + 1) & ROUND;
       return value;
     }
 
     private int fetchTwo() {
       int low = fetch();
-      return low | fetch() << 8;
+      return low | (fetch() << 8);
     }
 
     /** Two bytes of page 0, which is gone round. */
     private int pair(int at) {
-      return cells[at & 255] | cells[at + 1 & 255] << 8;
+      return cells[at & 255] | (cells[(at + 1) & 255] << 8);
     }
 
     private void indexed(int base, int by) {
@@ -2298,16 +2305,16 @@ public final class RingDrive {
       switch (way) {
         case IMM:
           address = pc;
-          pc = pc + 1 & ROUND;
+          pc = (pc + 1) & ROUND;
           break;
         case ZPG:
           address = fetch();
           break;
         case ZPX:
-          address = fetch() + x & 255;
+          address = (fetch() + x) & 255;
           break;
         case ZPY:
-          address = fetch() + y & 255;
+          address = (fetch() + y) & 255;
           break;
         case ABS:
           address = fetchTwo();
@@ -2331,7 +2338,7 @@ public final class RingDrive {
           break;
         case IND:
           int at = fetchTwo();
-          address = get(at) | get(at & 0xFF00 | at + 1 & 255) << 8;
+          address = get(at) | (get((at & 0xFF00) | ((at + 1) & 255)) << 8);
           break;
         default:
           break;
@@ -2348,7 +2355,7 @@ public final class RingDrive {
 
     private int marked(int value) {
       int zero = (value & 255) == 0 ? Z : 0;
-      p = p & ~(N | Z) | value & N | zero;
+      p = (p & ~(N | Z)) | (value & N) | zero;
       return value & 255;
     }
 
@@ -2399,7 +2406,7 @@ public final class RingDrive {
       int over = (~(a ^ value) & (a ^ sum) & 128) != 0 ? V : 0;
       int carry = sum > 255 ? C : 0;
       int zero = (sum & 255) == 0 ? Z : 0;
-      p = p & ~(N | V | Z | C) | sum & N | over | zero | carry;
+      p = (p & ~(N | V | Z | C)) | (sum & N) | over | zero | carry;
       a = sum & 255;
     }
 
@@ -2410,10 +2417,10 @@ public final class RingDrive {
       }
       int low = (a & 15) + (value & 15) + (p & C);
       if (low > 9) {
-        low = 16 + (low + 6 & 15);
+        low = 16 + ((low + 6) & 15);
       }
       int sum = (a & 240) + (value & 240) + low;
-      flag(Z, (a + value + (p & C) & 255) == 0);
+      flag(Z, ((a + value + (p & C)) & 255) == 0);
       flag(N, (sum & 128) != 0);
       flag(V, (~(a ^ value) & (a ^ sum) & 128) != 0);
       if (sum > 159) {
@@ -2426,7 +2433,7 @@ public final class RingDrive {
     private void subtract(int value) {
       int low = (a & 15) - (value & 15) - 1 + (p & C);
       if (low < 0) {
-        low = (low - 6 & 15) - 16;
+        low = ((low - 6) & 15) - 16;
       }
       int rest = (a & 240) - (value & 240) + low;
       if (rest < 0) {
@@ -2452,11 +2459,11 @@ public final class RingDrive {
           break;
         case ROL:
           flag(C, (value & 128) != 0);
-          value = value << 1 | carry;
+          value = (value << 1) | carry;
           break;
         case ROR:
           flag(C, (value & 1) != 0);
-          value = value >> 1 | carry << 7;
+          value = (value >> 1) | (carry << 7);
           break;
         case INC:
           value = value + 1;
@@ -2521,17 +2528,17 @@ public final class RingDrive {
 
     private void push(int value) {
       cells[256 + (s & 255)] = value & 255;
-      s = s - 1 & 255;
+      s = (s - 1) & 255;
     }
 
     private int pull() {
-      s = s + 1 & 255;
+      s = (s + 1) & 255;
       return cells[256 + (s & 255)];
     }
 
     private int pullTwo() {
       int low = pull();
-      return low | pull() << 8;
+      return low | (pull() << 8);
     }
 
     private void stack(int what) {
@@ -2546,22 +2553,22 @@ public final class RingDrive {
           a = marked(pull());
           break;
         case PLP:
-          p = pull() & ~FIXED | p & FIXED;
+          p = (pull() & ~FIXED) | (p & FIXED);
           break;
         case JMP:
           pc = address & ROUND;
           break;
         case JSR:
-          int back = pc - 1 & ROUND;
+          int back = (pc - 1) & ROUND;
           push(back >> 8);
           push(back);
           pc = address & ROUND;
           break;
         case RTS:
-          pc = pullTwo() + 1 & ROUND;
+          pc = (pullTwo() + 1) & ROUND;
           break;
         case RTI:
-          p = pull() & ~FIXED | p & FIXED;
+          p = (pull() & ~FIXED) | (p & FIXED);
           pc = pullTwo() & ROUND;
           break;
         default:

@@ -20,6 +20,7 @@ public final class JobTest {
     turnTurns();
     emptyAndFullRings();
     marksOverTheIndex();
+    marksOfTen();
     for (int run = 0; run < 60; run++) {
       damaged(run);
     }
@@ -285,6 +286,24 @@ public final class JobTest {
       }
       check.after("U1:2,12,0");
       compareRead(check, drive, 12, 0, "1s ahead of the index: " + ahead);
+    }
+  }
+
+  /** Ten 1s at any place are a MARK, nine are none. */
+  private static void marksOfTen() {
+    Check check = Check.formatted();
+    RingDrive drive = check.drive;
+    check.open(2, "#");
+    for (int ones = 9; ones <= 11; ones++) {
+      for (int place = 5100; place <= 5140; place++) {
+        makeAll(drive, 12, 0);
+        String run = "1".repeat(ones) + header(12, 3, 'A', 'B');
+        for (int i = 0; i < run.length(); i++) {
+          drive.turn(12, (place + i) % 5120, run.charAt(i) == '1' ? 1 << 31 : 0);
+        }
+        Check.due(ones + " 1s at " + place, ones < 10 ? "21 12 3" : "22 12 3", check.after("U1:2,12,3"));
+        Check.due("another sector", ones < 10 ? "21 12 2" : "20 12 2", check.after("U1:2,12,2"));
+      }
     }
   }
 
