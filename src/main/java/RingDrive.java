@@ -857,10 +857,27 @@ public final class RingDrive {
       return length >= MOST || block[at + length] == FILLER;
     }
 
+    /** Whether the ten bytes there are this NAME. To FIT isn't enough, as a NAME may have bytes behind a 160. */
+    boolean isSame(int[] block, int at) {
+      if (at < 0 || at > block.length - MOST) {
+        return false;
+      }
+      for (int i = 0; i < MOST; i++) {
+        if (block[at + i] != padded(i)) {
+          return false;
+        }
+      }
+      return true;
+    }
+
     void putInto(int[] block, int at) {
       for (int i = 0; i < MOST && at >= 0 && at + i < block.length; i++) {
-        block[at + i] = i < length ? row[i] : FILLER;
+        block[at + i] = padded(i);
       }
+    }
+
+    private int padded(int i) {
+      return i >= 0 && i < length && i < MOST ? row[i] : FILLER;
     }
   }
 
@@ -974,6 +991,10 @@ public final class RingDrive {
   /** THE DIRECTORY, gone through ENTRY by ENTRY. */
   private static final class Directory {
     static final int CLOSED = 128;
+    /** What is looked for: an ENTRY whose NAME a PATTERN FITS, one that has a NAME, one without TYPE. */
+    static final int FITTING = 0;
+    static final int NAMED = 1;
+    static final int EMPTY = 2;
 
     private static final int BLOCKS_MOST = 6;
     private static final int ENTRIES = 4;
@@ -1010,8 +1031,8 @@ public final class RingDrive {
       held = false;
     }
 
-    /** Goes on to the next ENTRY with a TYPE that the PATTERN FITS; without a PATTERN, to one without TYPE. */
-    int find(Pattern pattern) {
+    /** Goes on to the next ENTRY that is looked for. */
+    int find(int what, Pattern pattern) {
       found = false;
       for (int i = 0; i < BLOCKS_MOST * (ENTRIES + 1); i++) {
         int fault = held ? 0 : disk.readBlock(track, sector, row);
@@ -1021,7 +1042,7 @@ public final class RingDrive {
         held = true;
         entry++;
         if (entry < ENTRIES) {
-          if (isWanted(pattern)) {
+          if (isWanted(what, pattern)) {
             found = true;
             return 0;
           }
@@ -1044,11 +1065,13 @@ public final class RingDrive {
       return blocks >= BLOCKS_MOST;
     }
 
-    private boolean isWanted(Pattern pattern) {
-      if (pattern == null) {
-        return type() == 0;
+    private boolean isWanted(int what, Pattern pattern) {
+      int at = base() + NAME_AT;
+      switch (what) {
+        case EMPTY: return type() == 0;
+        case NAMED: return type() != 0 && pattern.isSame(row, at);
+        default: return type() != 0 && pattern.fits(row, at);
       }
-      return type() != 0 && pattern.fits(row, base() + NAME_AT);
     }
 
     private int base() {
@@ -1408,7 +1431,7 @@ public final class RingDrive {
 
     private int openToRead(Channel channel) {
       directory.rewind();
-      int fault = directory.find(name);
+      int fault = directory.find(Directory.FITTING, name);
       if (fault != 0) {
         return fault;
       }
@@ -1436,7 +1459,7 @@ public final class RingDrive {
 
     private int openToWrite(Channel channel) {
       directory.rewind();
-      int fault = directory.find(name);
+      int fault = directory.find(Directory.NAMED, name);
       if (fault == 0 && directory.found) {
         if (!replaces) {
           return status.set(63, 0, 0);
@@ -1495,7 +1518,7 @@ public final class RingDrive {
     /** Goes to the first ENTRY without TYPE, in a new block of the DIRECTORY if need be. */
     private int findRoom() {
       directory.rewind();
-      int fault = directory.find(null);
+      int fault = directory.find(Directory.EMPTY, name);
       if (fault != 0 || directory.found) {
         return fault;
       }
@@ -1604,7 +1627,7 @@ public final class RingDrive {
         return fault;
       }
       goToEntryOf(channel);
-      int fault = directory.find(channel.pattern);
+      int fault = directory.find(Directory.FITTING, channel.pattern);
       if (fault == 0 && directory.found) {
         channel.keepEntry(directory);
         addEntry(channel);
@@ -1825,7 +1848,7 @@ public final class RingDrive {
       boolean more = true;
       for (int i = 0; i < SCRATCH_MOST && more; i++) {
         directory.rewind();
-        int fault = directory.find(name);
+        int fault = directory.find(Directory.FITTING, name);
         more = directory.found;
         if (fault == 0 && more) {
           fault = dos.scratchFound();
@@ -1849,13 +1872,13 @@ public final class RingDrive {
         return status.set(33, 0, 0);
       }
       directory.rewind();
-      int fault = directory.find(name);
+      int fault = directory.find(Directory.NAMED, name);
       if (fault == 0 && directory.found) {
         return status.set(63, 0, 0);
       }
       if (fault == 0) {
         directory.rewind();
-        fault = directory.find(old);
+        fault = directory.find(Directory.NAMED, old);
       }
       if (fault == 0 && !directory.found) {
         return status.set(62, 0, 0);
@@ -1877,7 +1900,7 @@ public final class RingDrive {
       }
       directory.rewind();
       for (int i = 0; i < Disk.BLOCK && fault == 0; i++) {
-        fault = directory.find(all);
+        fault = directory.find(Directory.FITTING, all);
         if (fault == 0 && !directory.found) {
           return map.store();
         }

@@ -6,6 +6,7 @@ public final class CommandTest {
     scratch();
     scratchFaults();
     rename();
+    renameWithFillers();
     initialiseAndRestart();
     numbers();
     blockMoves();
@@ -167,6 +168,25 @@ public final class CommandTest {
     check.drive.protect(true);
     Check.due("26", "26 7 1", check.after("R:X=C"));
     Check.due("62 wants no writing", "62 0 0", check.after("R:X=Y"));
+  }
+
+  /** R asks for the same ten bytes, where to FIT asks for those up to a 160. */
+  private static void renameWithFillers() {
+    Check check = Check.formatted();
+    check.file("A\u00A0B", "1");
+    Check.due("none has OLD", "62 0 0", check.after("R:C=A"));
+    Check.due("none has NEW", "62 0 0", check.after("R:A=C"));
+    Check.due("one has NEW", "63 0 0", check.after("R:A\u00A0B=C"));
+    check.file("A", "22");
+    Check.due("the second one has OLD", "0 0 0", check.after("R:D=A\u00A0\u00A0"));
+    Check.due("first", "A\u00A0B", check.block(7, 1).substring(5, 8));
+    Check.due("second", "D\u00A0\u00A0", check.block(7, 1).substring(21, 24));
+    Check.due("NEW fits, but is another", "0 0 0", check.after("R:A=D"));
+    Check.due("OLD with a filler", "0 0 0", check.after("R:E=A\u00A0B"));
+    Check.due("first", "E" + "\u00A0".repeat(9), check.block(7, 1).substring(5, 15));
+    Check.due("S asks for FIT", "1 2 0", check.after("S:?"));
+    check.file("B", "1");
+    Check.due("a name that is gone is free", "0 0 0", check.after("R:A=B"));
   }
 
   private static void initialiseAndRestart() {

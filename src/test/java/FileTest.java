@@ -14,6 +14,7 @@ public final class FileTest {
     lists();
     listsLineByLine();
     patterns();
+    namesWithFillers();
     Check.end();
   }
 
@@ -368,5 +369,37 @@ public final class FileTest {
     check.poke(7, 1, 5, '*');
     Check.due("Z", 62, check.open(2, "Z"));
     Check.due("?", 0, check.open(2, "?"));
+  }
+
+  /** A PATTERN may FIT a NAME that is another one: R asks for that, W for the same ten bytes. */
+  private static void namesWithFillers() {
+    Check check = Check.formatted();
+    check.file("A\u00A0B", "1");
+    Check.due("R: it fits", 0, check.open(3, "A"));
+    Check.due("R", "1", check.read(3, 300));
+    Check.due("W: another name", 0, check.open(2, "A,W"));
+    Check.due("close", 0, check.drive.close(2));
+    Check.due("two entries", "\"DISK      \" AB\r1 \"A\" S\r1 \"A\" S\r70 FREE\r", check.list());
+    Check.due("W: the same", 63, check.open(2, "A\u00A0B,W"));
+    Check.due("W: the same with its fillers told", 63, check.open(2, "A\u00A0B" + "\u00A0".repeat(7) + ",W"));
+    Check.due("W: the same", 63, check.open(2, "A,W"));
+    Check.due("W: the same with a filler told", 63, check.open(2, "A\u00A0,W"));
+    Check.due("W: behind a filler another byte", 0, check.open(2, "A\u00A0C,W"));
+    check.drive.close(2);
+    // @ takes the one of that name, not the first one that fits.
+    Check.due("@", 0, check.open(2, "@A,P,W"));
+    check.drive.close(2);
+    Check.due("the second one was replaced", "\"DISK      \" AB\r1 \"A\" S\r1 \"A\" P\r1 \"A\" S\r69 FREE\r", check.list());
+    Check.due("all ten bytes count", 0, check.open(2, "A\u00A0\u00A0\u00A0\u00A0\u00A0\u00A0\u00A0\u00A0Z,W"));
+    Check.due("60 of that name alone", 0, check.open(3, "@A,W"));
+    check.drive.close(15);
+    // A name of fillers alone, and one that begins with a filler.
+    Check.due("fillers alone", 0, check.open(2, "\u00A0,W"));
+    Check.due("begins with one", 0, check.open(3, "\u00A0A,W"));
+    Check.due("the same", 63, check.open(4, "\u00A0\u00A0,W"));
+    // An entry without TYPE has no name.
+    check.drive.close(15);
+    Check.due("S", 1, check.command("S:*"));
+    Check.due("W of a name that is gone", 0, check.open(2, "A,W"));
   }
 }
