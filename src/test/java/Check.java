@@ -1,26 +1,68 @@
+import java.io.IOException;
 import java.nio.charset.StandardCharsets;
+import java.nio.file.Files;
+import java.nio.file.Path;
 
 /** What the tests share: a drive, sending texts to it, and counting answers that are not as due. */
 final class Check {
   private static int wrong = 0;
   private static int made = 0;
+  private static String sentence = "";
+  private static String document;
 
-  RingDrive drive = new RingDrive();
+  Drive drive = new Drive();
+
+  /**
+   * The test of a sentence. Its words must stand in the document, so that no test outlives its sentence
+   * (-Ddocument tells where the document is; without it that isn't looked at).
+   */
+  static void sentence(String words, Runnable test) {
+    sentence = words;
+    if (!inDocument(words)) {
+      due("the document has these words", 1, 0);
+    }
+    int before = made;
+    test.run();
+    if (made == before) {
+      due("the test asks for something", 1, 0);
+    }
+    sentence = "";
+  }
+
+  private static boolean inDocument(String words) {
+    String path = System.getProperty("document");
+    if (path == null) {
+      return true;
+    }
+    try {
+      document = document == null ? Files.readString(Path.of(path)).replaceAll("\\s+", " ") : document;
+    } catch (IOException e) {
+      throw new IllegalStateException(e);
+    }
+    return document.contains(words);
+  }
 
   static void due(String what, long want, long got) {
     made++;
     if (want != got) {
-      wrong++;
-      System.out.println(what + " answered " + got + ", due is " + want);
+      tell(what, "" + want, "" + got);
     }
+  }
+
+  static void due(String what, boolean want, boolean got) {
+    due(what, want ? 1 : 0, got ? 1 : 0);
   }
 
   static void due(String what, String want, String got) {
     made++;
     if (!want.equals(got)) {
-      wrong++;
-      System.out.println(what + " answered " + shown(got) + ", due is " + shown(want));
+      tell(what, shown(want), shown(got));
     }
+  }
+
+  private static void tell(String what, String want, String got) {
+    wrong++;
+    System.out.println((sentence.isEmpty() ? "" : "[" + sentence + "] ") + what + " answered " + got + ", due is " + want);
   }
 
   /** Ends a test: exit code 1 if an answer was wrong. */
@@ -32,7 +74,8 @@ final class Check {
   }
 
   static String shown(String text) {
-    return "<" + text.replace("\r", "\\r") + ">";
+    String row = text.replace("\r", "\\r");
+    return "<" + (row.length() > 200 ? row.substring(0, 200) + "..>, hash " + row.hashCode() : row + ">");
   }
 
   static byte[] bytes(String text) {
@@ -46,6 +89,27 @@ final class Check {
     }
     return text.toString();
   }
+
+  static String many(int count) {
+    StringBuilder text = new StringBuilder();
+    for (int i = 0; i < count; i++) {
+      text.append((char) (i * 7 + 3 & 255));
+    }
+    return text.toString();
+  }
+
+  /** A NAME as it lies on the disk. */
+  static String padded(String name) {
+    return name + "\u00A0".repeat(10 - name.length());
+  }
+
+  static Check formatted() {
+    Check check = new Check();
+    check.command("N:DISK,AB");
+    return check;
+  }
+
+  // ---- what is sent and read ----
 
   /** Puts a text on the tape, which must be empty, and answers its length. */
   int tape(String text) {
@@ -94,6 +158,12 @@ final class Check {
     return text;
   }
 
+  /** The lines of a list behind its first one. */
+  String entries() {
+    String list = list();
+    return list.substring(list.indexOf('\r') + 1);
+  }
+
   String status() {
     return drive.look(0) + " " + drive.look(1) + " " + drive.look(2);
   }
@@ -109,32 +179,19 @@ final class Check {
     return status();
   }
 
-  /** A block's 64 bytes, by a buffer of channel 13. */
-  String block(int track, int sector) {
-    open(13, "#");
-    command("U1:13," + track + "," + sector);
-    String bytes = read(13, 64);
-    drive.close(13);
-    return bytes;
+  String afterWrite(int channel, String text) {
+    write(channel, text);
+    return status();
   }
 
-  void setBlock(int track, int sector, String bytes) {
-    open(13, "#");
-    write(13, bytes);
-    command("U2:13," + track + "," + sector);
-    drive.close(13);
+  String afterRead(int channel, int n) {
+    drive.read(channel, n);
+    return status();
   }
 
-  /** Changes one byte of a block. */
-  void poke(int track, int sector, int at, int value) {
-    String bytes = block(track, sector);
-    setBlock(track, sector, bytes.substring(0, at) + (char) value + bytes.substring(at + 1));
-  }
-
-  static Check formatted() {
-    Check check = new Check();
-    check.command("N:DISK,AB");
-    return check;
+  String afterClose(int channel) {
+    drive.close(channel);
+    return status();
   }
 
   /** A closed file of these bytes. */
@@ -146,11 +203,65 @@ final class Check {
     due("close " + name, 0, drive.close(2));
   }
 
-  static String many(int count) {
-    StringBuilder text = new StringBuilder();
-    for (int i = 0; i < count; i++) {
-      text.append((char) (i * 7 + 3 & 255));
+  // ---- what lies on a formatted disk, by its bits alone: that changes nothing in the drive ----
+
+  /** Some bytes of a block. */
+  String block(int track, int sector, int from, int count) {
+    int[] bytes = Bits.decoded(Bits.at(drive, track, Bits.dataAt(sector) + 10 * (1 + from), 10 * count));
+    return bytes == null ? "no bytes" : text(bytes);
+  }
+
+  String block(int track, int sector) {
+    return block(track, sector, 0, 64);
+  }
+
+  /** Changes bytes of a block, and the exclusive or behind them. */
+  void poke(int track, int sector, int at, int... values) {
+    int change = 0;
+    for (int i = 0; i < values.length; i++) {
+      int old = block(track, sector, at + i, 1).charAt(0);
+      change ^= old ^ values[i];
+      Bits.make(drive, track, Bits.dataAt(sector) + 10 * (1 + at + i), Bits.coded(values[i]));
     }
-    return text.toString();
+    int sum = block(track, sector, 64, 1).charAt(0);
+    Bits.make(drive, track, Bits.dataAt(sector) + 10 * 65, Bits.coded(sum ^ change));
+  }
+
+  /** Writes a block by a buffer of channel 13. */
+  void setBlock(int track, int sector, String bytes) {
+    open(13, "#");
+    write(13, bytes);
+    command("U2:13," + track + "," + sector);
+    drive.close(13);
+  }
+
+  /** Spoils a block's header, so that READ and WRITE have the fault 20; or mends it again. */
+  void spoil(int track, int sector) {
+    drive.turn(track, Bits.headerAt(sector), 1 << 31);
+  }
+
+  /** Spoils the exclusive or of a block, so that READ has the fault 23. */
+  void spoilSum(int track, int sector) {
+    int sum = block(track, sector, 64, 1).charAt(0);
+    Bits.make(drive, track, Bits.dataAt(sector) + 10 * 65, Bits.coded(sum ^ 1));
+  }
+
+  /** Puts a block's DATA right behind its HEADER: it can be READ there, but WRITE has the fault 25. */
+  void spoilWriting(int track, int sector) {
+    String bits = Bits.at(drive, track, Bits.dataAt(sector), 680);
+    Bits.make(drive, track, Bits.headerAt(sector) + 80, Bits.ones(10) + bits);
+  }
+
+  /** Makes all blocks of the map taken but those that are told as track, sector, track, sector. */
+  void leaveFree(int... blocks) {
+    int[] map = new int[28];
+    map[0] = 7;
+    map[1] = 1;
+    map[2] = 68;
+    for (int i = 0; i < blocks.length; i += 2) {
+      map[2 + 2 * blocks[i]]++;
+      map[3 + 2 * blocks[i]] |= 1 << blocks[i + 1];
+    }
+    setBlock(7, 0, text(map) + padded("DISK") + "AB");
   }
 }

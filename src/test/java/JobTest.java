@@ -1,79 +1,39 @@
 import java.util.ArrayList;
-import java.util.Arrays;
 import java.util.List;
 import java.util.Random;
 
-/**
- * Promises 9, 10, 11 and PART 1 of the terms: jobs on rings whose bits were turned, against a slow model
- * that goes along bit by bit and keeps every byte that came.
- */
+/** Jobs on rings whose bits were turned at random, against a slow model that goes along bit by bit and keeps every byte that came. */
 public final class JobTest {
-  private static final String[] GROUPS = (
-      "01010 01011 10010 10011 01110 01111 10110 10111 01001 11001 11010 11011 01101 11101 11110 10101").split(" ");
   private static final Random RANDOM = new Random(20261116);
 
   /** A byte that came: its bits, whether it is FIRST, where its highest bit lies and where the bit behind it. */
   private record Came(int value, boolean first, int start, int behind) {}
 
   public static void main(String[] args) {
-    formatLaysOut();
-    turnTurns();
-    emptyAndFullRings();
-    marksOverTheIndex();
-    marksOfTen();
-    for (int run = 0; run < 60; run++) {
-      damaged(run);
-    }
-    for (int run = 0; run < 60; run++) {
+    int runs = args.length > 0 ? Integer.parseInt(args[0]) : 150;
+    for (int run = 0; run < runs; run++) {
+      damagedSectors(run);
       damagedId(run);
     }
-    idBeyondThirtyTwo();
-    protectedDisk();
     Check.end();
   }
 
   // ---- the model ----
 
-  private static int lengthOf(int track) {
-    return new int[] {1000, 880, 760, 640}[(track - 1) / 3];
-  }
-
-  private static int sectorsOf(int track) {
-    return new int[] {8, 7, 6, 5}[(track - 1) / 3];
-  }
-
-  private static int[] ring(RingDrive drive, int track) {
-    int size = 8 * lengthOf(track);
-    int[] ring = new int[size];
-    for (int at = 0; at < size; at += 32) {
-      int word = drive.bits(track, at);
-      for (int i = 0; i < 32; i++) {
-        ring[(at + i) % size] = word >>> 31 - i & 1;
-      }
+  private static int[] ring(String bits) {
+    int[] ring = new int[bits.length()];
+    for (int i = 0; i < ring.length; i++) {
+      ring[i] = bits.charAt(i) - '0';
     }
     return ring;
   }
 
-  private static String coded(int... bytes) {
+  private static String shown(int[] ring) {
     StringBuilder text = new StringBuilder();
-    for (int one : bytes) {
-      text.append(GROUPS[one >> 4 & 15]).append(GROUPS[one & 15]);
+    for (int bit : ring) {
+      text.append(bit);
     }
     return text.toString();
-  }
-
-  private static String header(int track, int sector, int i, int j) {
-    return coded(8, sector ^ track ^ i ^ j, sector, track, j, i, 15, 15);
-  }
-
-  private static String data(int[] block) {
-    int[] all = new int[68];
-    all[0] = 7;
-    for (int k = 0; k < 64; k++) {
-      all[k + 1] = block[k];
-      all[65] ^= block[k];
-    }
-    return coded(all);
   }
 
   /** All bytes that come in some rounds from bit 0 on. */
@@ -156,23 +116,11 @@ public final class JobTest {
     return bitsOf(all, i, 85);
   }
 
-  private static int[] decoded(String bits) {
-    int[] plain = new int[bits.length() / 10];
-    for (int i = 0; i < bits.length() / 5; i++) {
-      int four = Arrays.asList(GROUPS).indexOf(bits.substring(5 * i, 5 * i + 5));
-      if (four < 0) {
-        return null;
-      }
-      plain[i / 2] = 16 * plain[i / 2] + four;
-    }
-    return plain;
-  }
-
   private static int readFault(String bits) {
-    if (!bits.startsWith(GROUPS[0] + GROUPS[7])) {
+    if (!bits.startsWith(Bits.GROUPS[0] + Bits.GROUPS[7])) {
       return 22;
     }
-    int[] plain = decoded(bits);
+    int[] plain = Bits.decoded(bits);
     if (plain == null) {
       return 24;
     }
@@ -183,214 +131,92 @@ public final class JobTest {
     return sum == plain[65] ? 0 : 23;
   }
 
+  // ---- damage, to the drive's ring and to the model's ----
+
+  private static void change(Drive drive, int track, int[] ring, int at, int mask) {
+    drive.turn(track, at, mask);
+    for (int i = 0; i < 32; i++) {
+      ring[(at + i) % ring.length] ^= mask >>> 31 - i & 1;
+    }
+  }
+
+  private static int wordAt(int[] ring, int at) {
+    int word = 0;
+    for (int i = 0; i < 32; i++) {
+      word = word << 1 | ring[(at + i) % ring.length];
+    }
+    return word;
+  }
+
+  private static void damage(Drive drive, int track, int[] ring) {
+    for (int i = RANDOM.nextInt(14); i >= 0; i--) {
+      int at = RANDOM.nextInt(ring.length);
+      int word = wordAt(ring, at);
+      switch (RANDOM.nextInt(5)) {
+        case 0: change(drive, track, ring, at, 1 << RANDOM.nextInt(32)); break;
+        case 1: change(drive, track, ring, at, ~word); break;
+        case 2: change(drive, track, ring, at, ~word & 0x00FFC000); break;
+        case 3: change(drive, track, ring, at, ~word & RANDOM.nextInt()); break;
+        default: change(drive, track, ring, at, word ^ 0x7FF00FFF); break;
+      }
+    }
+  }
+
   // ---- the tests ----
 
-  private static void formatLaysOut() {
-    Check check = Check.formatted();
-    for (int track = 1; track <= 12; track++) {
-      StringBuilder want = new StringBuilder();
-      for (int sector = 0; sector < sectorsOf(track); sector++) {
-        want.append("1".repeat(40)).append(header(track, sector, 'A', 'B')).append("01010101".repeat(9));
-        want.append("1".repeat(40));
-        if (track == 7 && sector < 2) {
-          int[] block = new int[64];
-          for (int i = 0; i < 64; i++) {
-            block[i] = sector == 0 ? check.block(7, 0).charAt(i) : i == 1 ? 255 : 0;
-          }
-          want.append(data(block));
-        } else {
-          want.append(data(new int[64]));
-        }
-        want.append("01010101".repeat(8));
-      }
-      while (want.length() < 8 * lengthOf(track)) {
-        want.append("01010101");
-      }
-      StringBuilder got = new StringBuilder();
-      for (int bit : ring(check.drive, track)) {
-        got.append(bit);
-      }
-      Check.due("format of track " + track, want.toString(), got.toString());
-    }
-  }
-
-  private static void turnTurns() {
-    Check check = new Check();
-    RingDrive drive = check.drive;
-    Check.due("turn(1, 7990, -1)", 1, drive.turn(1, 7990, -1) ? 1 : 0);
-    Check.due("bits(1, 7990)", -1, drive.bits(1, 7990));
-    Check.due("bits(1, 7989)", 0x7FFFFFFF, drive.bits(1, 7989));
-    Check.due("bits(1, 0)", 0xFFFFFC00, drive.bits(1, 0));
-    Check.due("turn(1, 7999, 5)", 1, drive.turn(1, 7999, 5) ? 1 : 0);
-    Check.due("bits(1, 0)", 0xFFFFFC0A, drive.bits(1, 0));
-    Check.due("bits(1, 8000)", 0, drive.bits(1, 8000));
-    Check.due("bits(1, -1)", 0, drive.bits(1, -1));
-    Check.due("bits(0, 0)", 0, drive.bits(0, 0));
-    Check.due("bits(13, 0)", 0, drive.bits(13, 0));
-    for (int track = 1; track <= 12; track++) {
-      int size = 8 * lengthOf(track);
-      Check.due("turn beyond", 0, drive.turn(track, size, 1) ? 1 : 0);
-      Check.due("turn ahead", 0, drive.turn(track, -1, 1) ? 1 : 0);
-      Check.due("turn of the last bit", 1, drive.turn(track, size - 1, 1 << 31) ? 1 : 0);
-      Check.due("the last bit", 1, drive.bits(track, size - 1) >>> 31 ^ (track == 1 ? 1 : 0));
-    }
-    Check.due("turn(0, 0, 1)", 0, drive.turn(0, 0, 1) ? 1 : 0);
-    Check.due("turn(13, 0, 1)", 0, drive.turn(13, 0, 1) ? 1 : 0);
-    Check.due("turn(-2147483648, 0, 1)", 0, drive.turn(Integer.MIN_VALUE, 0, 1) ? 1 : 0);
-    Check.due("turn(1, 2147483647, 1)", 0, drive.turn(1, Integer.MAX_VALUE, 1) ? 1 : 0);
-  }
-
-  /** Makes the 32 bits from a place on as told. */
-  private static void make(RingDrive drive, int track, int at, int word) {
-    drive.turn(track, at, drive.bits(track, at) ^ word);
-  }
-
-  private static void makeAll(RingDrive drive, int track, int word) {
-    for (int at = 0; at < 8 * lengthOf(track); at += 32) {
-      make(drive, track, at, word);
-    }
-  }
-
-  private static void emptyAndFullRings() {
+  private static void damagedSectors(int run) {
     Check check = Check.formatted();
     check.open(2, "#");
-    makeAll(check.drive, 3, 0);
-    Check.due("a ring of 0s", "21 3 5", check.after("U1:2,3,5"));
-    Check.due("a ring of 0s", "21 3 5", check.after("U2:2,3,5"));
-    makeAll(check.drive, 3, -1);
-    Check.due("a ring of 1s", "21 3 0", check.after("U1:2,3,0"));
-    make(check.drive, 3, 4000, 0xFFFFFFFE);
-    Check.due("a ring with one 0", "20 3 7", check.after("U1:2,3,7"));
-    makeAll(check.drive, 7, -1);
-    Check.due("ID of a ring of 1s", "74 7 0", check.after("I"));
-    Check.due("no ID", RingDrive.NONE, check.drive.look(5));
-    Check.due("no ID", RingDrive.NONE, check.drive.look(6));
-    make(check.drive, 7, 0, 0x7FFFFFFF);
-    Check.due("ID of a ring with one 0", "74 7 0", check.after("I"));
-    Check.due("ID wanted by a READ", "74 7 0", check.after("U1:2,3,7"));
-  }
-
-  private static void marksOverTheIndex() {
-    for (int ahead = 0; ahead <= 12; ahead++) {
-      Check check = Check.formatted();
-      RingDrive drive = check.drive;
-      check.open(2, "#");
-      // Of the first sector's mark nothing stays; the ring's end and begin get ten 1s or fewer.
-      make(drive, 12, 0, 0);
-      make(drive, 12, 8, 0);
-      for (int i = 0; i < ahead; i++) {
-        drive.turn(12, 5119 - i, 1 << 31);
-        if ((drive.bits(12, 5119 - i) >>> 31) == 0) {
-          drive.turn(12, 5119 - i, 1 << 31);
-        }
-      }
-      check.after("U1:2,12,0");
-      compareRead(check, drive, 12, 0, "1s ahead of the index: " + ahead);
+    int track = new int[] {1, 2, 5, 9, 12, 10}[run % 6];
+    int[] ring = ring(Bits.formatted(track, 'A', 'B'));
+    damage(check.drive, track, ring);
+    compareRead(check, ring, track, RANDOM.nextInt(Bits.sectorsOf(track)));
+    compareWrite(check, ring, track, RANDOM.nextInt(Bits.sectorsOf(track)));
+    if (RANDOM.nextBoolean()) {
+      damage(check.drive, track, ring);
     }
+    compareWrite(check, ring, track, RANDOM.nextInt(Bits.sectorsOf(track)));
+    compareRead(check, ring, track, RANDOM.nextInt(Bits.sectorsOf(track)));
+    Check.due("run " + run + ": ring", shown(ring), Bits.at(check.drive, track, 0, ring.length));
   }
 
-  /** Ten 1s at any place are a MARK, nine are none. */
-  private static void marksOfTen() {
-    Check check = Check.formatted();
-    RingDrive drive = check.drive;
-    check.open(2, "#");
-    for (int ones = 9; ones <= 11; ones++) {
-      for (int place = 5100; place <= 5140; place++) {
-        makeAll(drive, 12, 0);
-        String run = "1".repeat(ones) + header(12, 3, 'A', 'B');
-        for (int i = 0; i < run.length(); i++) {
-          drive.turn(12, (place + i) % 5120, run.charAt(i) == '1' ? 1 << 31 : 0);
-        }
-        Check.due(ones + " 1s at " + place, ones < 10 ? "21 12 3" : "22 12 3", check.after("U1:2,12,3"));
-        Check.due("another sector", ones < 10 ? "21 12 2" : "20 12 2", check.after("U1:2,12,2"));
-      }
-    }
-  }
-
-  private static void compareRead(Check check, RingDrive drive, int track, int sector, String what) {
-    int[] ring = ring(drive, track);
+  private static void compareRead(Check check, int[] ring, int track, int sector) {
     List<Came> all = goAlong(ring, 14);
-    int at = seek(ring, all, header(track, sector, drive.look(5), drive.look(6)));
+    int at = seek(ring, all, Bits.header(track, sector, 'A', 'B'));
     String bits = at < 0 ? "" : dataBehind(all, at);
     int fault = at < 0 ? -at : readFault(bits);
-    check.command("B-P:2,0");
-    check.write(2, "!".repeat(64));
-    check.command("U1:2," + track + "," + sector);
-    Check.due(what + ": READ", fault == 0 ? "0 0 0" : fault + " " + track + " " + sector, check.status());
-    check.command("B-P:2,0");
-    String got = check.read(2, 64);
+    Check.due("READ", fault == 0 ? "0 0 0" : fault + " " + track + " " + sector, check.after("U1:2," + track + "," + sector));
     if (fault == 0) {
-      int[] plain = decoded(bits);
-      Check.due(what + ": bytes", Check.text(Arrays.copyOfRange(plain, 1, 65)), got);
-    } else {
-      Check.due(what + ": bytes stay", "!".repeat(64), got);
+      int[] plain = Bits.decoded(bits);
+      check.drive.read(2, 64);
+      for (int i = 0; i < 64; i += 1 + RANDOM.nextInt(6)) {
+        Check.due("byte " + i, plain[1 + i], check.drive.out(i));
+      }
     }
   }
 
-  private static void compareWrite(Check check, RingDrive drive, int track, int sector, String what) {
-    int[] ring = ring(drive, track);
+  private static void compareWrite(Check check, int[] ring, int track, int sector) {
     int[] block = new int[64];
     for (int i = 0; i < 64; i++) {
       block[i] = RANDOM.nextInt(256);
     }
-    String header = header(track, sector, drive.look(5), drive.look(6));
+    String header = Bits.header(track, sector, 'A', 'B');
     List<Came> all = goAlong(ring, 14);
     int at = seek(ring, all, header);
     int fault = -at;
     if (at >= 0) {
       int place = all.get(at + 18).behind();
-      String run = "1".repeat(40) + data(block);
+      String run = Bits.ones(40) + Bits.data(block);
       for (int i = 0; i < run.length(); i++) {
         ring[(place + i) % ring.length] = run.charAt(i) - '0';
       }
       all = goAlong(ring, 14);
       at = seek(ring, all, header);
-      fault = at >= 0 && dataBehind(all, at).equals(data(block)) ? 0 : 25;
+      fault = at >= 0 && dataBehind(all, at).equals(Bits.data(block)) ? 0 : 25;
     }
     check.command("B-P:2,0");
     check.write(2, Check.text(block));
-    check.command("U2:2," + track + "," + sector);
-    Check.due(what + ": WRITE", fault == 0 ? "0 0 0" : fault + " " + track + " " + sector, check.status());
-    Check.due(what + ": ring", Arrays.toString(ring), Arrays.toString(ring(drive, track)));
-  }
-
-  private static void damage(RingDrive drive, int track) {
-    int size = 8 * lengthOf(track);
-    for (int i = RANDOM.nextInt(12); i >= 0; i--) {
-      int at = RANDOM.nextInt(size);
-      switch (RANDOM.nextInt(5)) {
-        case 0:
-          drive.turn(track, at, 1 << RANDOM.nextInt(32));
-          break;
-        case 1:
-          make(drive, track, at, -1);
-          break;
-        case 2:
-          make(drive, track, at, drive.bits(track, at) | 0x00FFC000);
-          break;
-        case 3:
-          make(drive, track, at, drive.bits(track, at) | RANDOM.nextInt());
-          break;
-        default:
-          make(drive, track, at, 0x7FF00FFF);
-          break;
-      }
-    }
-  }
-
-  private static void damaged(int run) {
-    Check check = Check.formatted();
-    RingDrive drive = check.drive;
-    check.open(2, "#");
-    int track = new int[] {1, 2, 5, 9, 12, 10}[run % 6];
-    for (int i = 0; i < 3; i++) {
-      damage(drive, track);
-      for (int sector = 0; sector < sectorsOf(track); sector++) {
-        compareRead(check, drive, track, sector, "run " + run);
-      }
-      compareWrite(check, drive, track, RANDOM.nextInt(sectorsOf(track)), "run " + run);
-      compareWrite(check, drive, track, RANDOM.nextInt(sectorsOf(track)), "run " + run);
-    }
+    Check.due("WRITE", fault == 0 ? "0 0 0" : fault + " " + track + " " + sector, check.after("U2:2," + track + "," + sector));
   }
 
   private static String naiveId(int[] ring) {
@@ -399,7 +225,7 @@ public final class JobTest {
     for (int i = 0; i < all.size() && all.get(i).start() < ring.length && firsts < 32; i++) {
       if (all.get(i).first()) {
         firsts++;
-        int[] plain = decoded(bitsOf(all, i, 10));
+        int[] plain = Bits.decoded(bitsOf(all, i, 10));
         if (plain != null && plain[0] == 8 && plain[1] == (plain[2] ^ plain[3] ^ plain[4] ^ plain[5])) {
           return plain[5] + " " + plain[4];
         }
@@ -408,59 +234,24 @@ public final class JobTest {
     return "-1 -1";
   }
 
+  /** A track 7 of headers, each with another ID, most of them spoiled. */
   private static void damagedId(int run) {
-    Check check = Check.formatted();
-    RingDrive drive = check.drive;
-    for (int sector = 0; sector < 6; sector++) {
-      if (RANDOM.nextInt(4) > 0) {
-        drive.turn(7, 122 * 8 * sector + 40 + RANDOM.nextInt(80), 1 << 31);
+    Check check = new Check();
+    StringBuilder bits = new StringBuilder();
+    for (int i = 0; i < 40; i++) {
+      bits.append(Bits.ones(10 + RANDOM.nextInt(3))).append(Bits.header(7, i, RANDOM.nextInt(256), RANDOM.nextInt(256)));
+      bits.append(Bits.zeros(RANDOM.nextInt(40)));
+    }
+    int[] ring = ring(bits.append(Bits.zeros(6080)).substring(0, 6080));
+    for (int at = 0; at < 6000; at++) {
+      if (ring[at] == 0 && RANDOM.nextInt(30) == 0) {
+        ring[at] = 1;
       }
     }
-    damage(drive, 7);
-    String want = naiveId(ring(drive, 7));
+    Bits.turn(check.drive, 7, 0, shown(ring));
+    String want = naiveId(ring);
     check.command("I");
-    Check.due("run " + run + ": ID", want, drive.look(5) + " " + drive.look(6));
-    Check.due("run " + run + ": 74", want.equals("-1 -1") ? 1 : 0, drive.look(0) == 74 ? 1 : 0);
-  }
-
-  /** A good HEADER as the how manieth FIRST byte of the ring is still found. */
-  private static void idBeyondThirtyTwo() {
-    for (int firsts = 30; firsts <= 34; firsts++) {
-      Check check = Check.formatted();
-      RingDrive drive = check.drive;
-      makeAll(drive, 7, 0);
-      for (int i = 0; i < firsts - 1; i++) {
-        make(drive, 7, 32 * i, 0x001FFE00);
-      }
-      String header = "1".repeat(40) + header(9, 200, 'X', 'Y') + "0".repeat(40);
-      for (int i = 0; i + 32 <= header.length(); i += 32) {
-        make(drive, 7, 32 * firsts + i, Integer.parseUnsignedInt(header.substring(i, i + 32), 2));
-      }
-      check.command("I");
-      Check.due("FIRST byte " + firsts, firsts <= 32 ? 'X' : RingDrive.NONE, drive.look(5));
-      Check.due("its fault", firsts <= 32 ? 20 : 74, drive.look(0));
-    }
-  }
-
-  private static void protectedDisk() {
-    Check check = Check.formatted();
-    check.open(2, "#");
-    check.drive.protect(true);
-    Check.due("U2", "26 9 2", check.after("U2:2,9,2"));
-    Check.due("U1", "0 0 0", check.after("U1:2,9,2"));
-    Check.due("N", "26 12 0", check.after("N:OTHER,CD"));
-    Check.due("the ID stays", 'A', check.drive.look(5));
-    Check.due("but channels are closed", 0, check.drive.look(7));
-    Check.due("N without ID", "26 7 0", check.after("N:OTHER"));
-    check.command("UI");
-    check.open(2, "#");
-    makeAll(check.drive, 7, 0);
-    Check.due("26 is ahead of 74", "26 9 2", check.after("U2:2,9,2"));
-    Check.due("but N wants the ID first", "74 7 0", check.after("N:OTHER"));
-    check.drive.power();
-    check.open(2, "#");
-    Check.due("power leaves it protected", "26 1 0", check.after("U2:2,1,0"));
-    check.drive.protect(false);
-    Check.due("not protected", "74 7 0", check.after("U2:2,1,0"));
+    Check.due("run " + run + ": ID", want, check.drive.look(5) + " " + check.drive.look(6));
+    Check.due("run " + run + ": 74", want.equals("-1 -1"), check.drive.look(0) == 74);
   }
 }

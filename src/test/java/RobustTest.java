@@ -5,12 +5,13 @@ import java.util.Random;
  * end, the same calls give the same answers, and answers stay in their bounds.
  */
 public final class RobustTest {
+  private static final int CALLS_OF_A_STEP = 60;
   private static final String[] NAMES = {"A", "B", "AB", "ABC", "LONGNAME10", "A*", "?", "*", "", "ELEVENBYTES", "A\u00A0B"};
   private static final int[] EDGES = {0, 1, -1, 2, 15, 16, 31, 40, 41, 300, 301, 399, 400, 401, 2047, 2048, 5119, 5120, 7999, 8000,
     Integer.MAX_VALUE, Integer.MIN_VALUE};
 
   public static void main(String[] args) {
-    int runs = args.length > 0 ? Integer.parseInt(args[0]) : 300;
+    int runs = args.length > 0 ? Integer.parseInt(args[0]) : 1500;
     for (int run = 0; run < runs; run++) {
       long one = play(run);
       if (run % 10 == 0) {
@@ -23,29 +24,29 @@ public final class RobustTest {
   private static long play(int seed) {
     Random random = new Random(seed);
     Check check = new Check();
+    Drive drive = check.drive;
     long sum = 0;
     if (random.nextInt(10) > 0) {
       sum = check.command("N:DISK,AB");
     }
-    for (int i = 0; i < 160; i++) {
+    while (drive.left() > 2 * CALLS_OF_A_STEP) {
       sum = 31 * sum + step(check, random);
-      RingDrive drive = check.drive;
       int open = drive.look(7);
-      boolean good = open >= 0 && open <= 3 && drive.look(4) >= 0 && drive.look(4) <= 400 && drive.look(0) >= 0
-          && drive.look(1) >= 0 && drive.look(1) <= 255 && drive.look(2) >= 0 && drive.look(2) <= 255;
-      Check.due("bounds in run " + seed, 1, good ? 1 : 0);
+      int tape = drive.look(4);
+      int track = drive.look(1);
+      int sector = drive.look(2);
+      Check.due("bounds in run " + seed, true, open >= 0 && open <= 3 && tape >= 0 && tape <= 400 && drive.look(0) >= 0
+          && track >= 0 && track <= 255 && sector >= 0 && sector <= 255);
       sum = 31 * sum + drive.look(random.nextInt(17) - 1);
     }
-    for (int track = 1; track <= 12; track++) {
-      for (int at = 0; at < 5120; at += 320) {
-        sum = 31 * sum + check.drive.bits(track, at);
-      }
+    for (int i = 0; i < CALLS_OF_A_STEP; i++) {
+      sum = 31 * sum + drive.bits(1 + random.nextInt(12), random.nextInt(5120));
     }
     return sum;
   }
 
   private static long step(Check check, Random random) {
-    RingDrive drive = check.drive;
+    Drive drive = check.drive;
     int c = random.nextInt(4) == 0 ? random.nextInt(18) - 1 : random.nextInt(4);
     switch (random.nextInt(16)) {
       case 0:
@@ -57,7 +58,7 @@ public final class RobustTest {
         return drive.close(c);
       case 4:
       case 5:
-        return sumOf(check.read(c, 1 + random.nextInt(300)));
+        return reads(drive, c, 1 + random.nextInt(300));
       case 6:
       case 7:
       case 8:
@@ -67,9 +68,7 @@ public final class RobustTest {
       case 10:
         return drive.turn(random.nextInt(14), random.nextInt(8100) - 50, 1 << random.nextInt(32)) ? 1 : 0;
       case 11:
-        int track = 1 + random.nextInt(12);
-        int at = random.nextInt(5120);
-        return drive.turn(track, at, ~drive.bits(track, at)) ? 1 : 0;
+        return drive.turn(1 + random.nextInt(12), random.nextInt(5120), random.nextInt()) ? 1 : 0;
       case 12:
         drive.protect(random.nextInt(4) == 0);
         return 0;
@@ -79,21 +78,25 @@ public final class RobustTest {
         }
         return edges(drive, random);
       case 14:
-        return sumOf(check.list(random.nextBoolean() ? "$" : "$:" + NAMES[random.nextInt(NAMES.length)]));
+        return check.open(14, random.nextBoolean() ? "$" : "$:" + NAMES[random.nextInt(NAMES.length)]) + reads(drive, 14, 300);
       default:
-        return sumOf(check.read(15, 1 + random.nextInt(40)));
+        return reads(drive, 15, 1 + random.nextInt(40));
     }
   }
 
-  private static long sumOf(String text) {
-    long sum = text.length();
-    for (int i = 0; i < text.length(); i++) {
-      sum = 7 * sum + text.charAt(i);
+  /** A read, of which some bytes are looked at. */
+  private static long reads(Drive drive, int c, int n) {
+    int count = drive.read(c, n);
+    long sum = count;
+    for (int i = 0; i < count; i += 1 + count / 10) {
+      int one = drive.out(i);
+      Check.due("a byte of OUT", true, one >= 0 && one <= 255);
+      sum = 7 * sum + one;
     }
     return sum;
   }
 
-  private static long edges(RingDrive drive, Random random) {
+  private static long edges(Drive drive, Random random) {
     int a = EDGES[random.nextInt(EDGES.length)];
     int b = EDGES[random.nextInt(EDGES.length)];
     switch (random.nextInt(9)) {
@@ -153,7 +156,7 @@ public final class RobustTest {
     }
   }
 
-  /** Writes a block whose first bytes, or all of them, are anything. */
+  /** Writes a block of any bytes, or the first two, or puts any byte into it by its bits. */
   private static long damageBlock(Check check, Random random) {
     int[][] blocks = {{7, 0}, {7, 1}, {7, 2}, {6, 0}, {6, 3}, {6, 1}, {8, 0}, {5, 0}};
     int[] at = blocks[random.nextInt(blocks.length)];
@@ -163,12 +166,9 @@ public final class RobustTest {
     } else if (how == 1) {
       check.setBlock(at[0], at[1], Check.text(5 + random.nextInt(4), random.nextInt(7)));
     } else {
-      String old = check.block(at[0], at[1]);
-      if (old.length() == 64) {
-        int place = random.nextInt(64);
-        int value = random.nextBoolean() ? random.nextInt(256) : random.nextInt(9);
-        check.setBlock(at[0], at[1], old.substring(0, place) + (char) value + old.substring(place + 1));
-      }
+      int place = random.nextInt(64);
+      int value = random.nextBoolean() ? random.nextInt(256) : random.nextInt(9);
+      check.poke(at[0], at[1], place, value);
     }
     return check.drive.look(0);
   }
