@@ -472,7 +472,7 @@ public final class BitsTest {
   }
 
   private static void writtenRoundTheRing() {
-    for (int place : new int[] {4000, 4148, 4500, 4958, 4990, 4991, 4992, 4993, 4994, 4995, 4996, 4997, 5030, 5110}) {
+    for (int place : new int[] {4000, 4148, 4500, 4501, 4502, 4503, 4504, 4505, 4506, 4507, 4958, 4990, 5030, 5110}) {
       Check check = blank();
       lay(check, place, Bits.ones(10) + header(3));
       check.write(2, Check.text(bytes(11)));

